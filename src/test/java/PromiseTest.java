@@ -220,6 +220,19 @@ public final class PromiseTest {
         dueFault("gri 1 1;", 1, 0);
         dueFault("grids 1 1;", 1, 0);
         dueFault("Grid 1 1;", 1, 0);
+        dueFault("brid 1 1;", 1, 0);
+        dueFault("grida 1 1;", 1, 0);
+        dueFault("gridz 1 1;", 1, 0);
+        dueFault("grid`1 1;", 1, 4);
+        dueFault("grid{1 1;", 1, 4);
+        dueFault("grid /1;", 1, 5);
+        dueFault("grid :1;", 1, 5);
+        dueFault("grid 9 1;", 2, 5);
+        dueFault("grid 1 2;mall 0 right;", 1, 9);
+        dueFault("grid 1 2;burn 0 right;", 1, 9);
+        dueFault("grid 1 2;map 0 right;", 1, 9);
+        dueFault("grid 1 2;gap 0 night;", 1, 15);
+        dueFault("grid 2 1;gap 0 bellow;", 1, 15);
         dueFault("wall 1 1;", 1, 0);
         dueFault("grid grid 1;", 1, 5);
         dueFault("grid 1 1,", 1, 8);
@@ -754,6 +767,10 @@ public final class PromiseTest {
         }
         due("trees", x.settings(0, 1), 192);
         due("far too many loops", x.settings(0, MAX), 0);
+        PegStrings walls = grid("grid 4 4;");
+        walls.all(0, 0, 2);
+        due("all apart", walls.settings(0, 16), 1);
+        due("all apart", walls.settings(0, 15) + walls.settings(0, 17) + walls.settings(0, 1), 0);
         due("below 0", x.settings(0, -1), -2);
         due("below 0", x.settings(0, MIN), -2);
         tells(x, 1, "grid 3 4;wall 0 right,0 below,1 right,1 below;");
@@ -777,6 +794,42 @@ public final class PromiseTest {
             due(what + ", A to the " + k, smooth ? x.smooth(0, k) : x.bracket(0, k), wants[k + 100]);
         }
     }
+
+    /** The bracket by its own words: way for way, with loops() for each. */
+    private static long[] termsOf(PegStrings x) {
+        long[] terms = new long[201];
+        int crosses = x.look(0, 3);
+        for (long set = 0; set < 1L << crosses; set++) {
+            int power = 0;
+            int bit = 0;
+            for (int e = 0; e < x.look(0, 2); e++) {
+                if (x.edge(0, e) < 2) {
+                    power += ((set >> bit & 1) == 1) == (x.edge(0, e) == 0) ? 1 : -1;
+                    bit++;
+                }
+            }
+            long[] way = new long[201];
+            way[power + 100] = 1;
+            for (int i = x.loops(0, set); i > 1; i--) {
+                long[] times = new long[201];
+                for (int k = 2; k < 199; k++) {
+                    times[k + 2] -= way[k];
+                    times[k - 2] -= way[k];
+                }
+                way = times;
+            }
+            for (int k = 0; k < 201; k++) {
+                terms[k] += way[k];
+            }
+        }
+        return terms;
+    }
+
+    private static final String[] MANY = {
+        "grid 3 3;", "grid 3 3;turn 0 right,1 below,4 right,7 right;", "grid 4 4;wall 0 right,0 below,1 right,2 below,"
+        + "5 right,6 below,7 below;gap 8 right,9 below,12 right,10 below,14 right;turn 3 below;",
+        "grid 3 4;gap 0 right,5 right,10 right,3 below;wall 1 below;turn 2 right,8 right;",
+    };
 
     private static void dueNoTerms(boolean smooth) {
         PegStrings x = grid("grid 1 1;");
@@ -805,6 +858,22 @@ public final class PromiseTest {
         dueTerms("the trefoil", grid("grid 2 2;gap 0 right;"), false, -7, 1, -3, -1, 5, -1);
         dueTerms("the other trefoil", grid("grid 2 2;gap 0 right;turn 0 below,1 below,2 right;"), false,
                 7, 1, 3, -1, -5, -1);
+        for (String text : MANY) {
+            PegStrings x = grid(text);
+            due("12 crosses", x.look(0, 3), 12);
+            long[] wants = termsOf(x);
+            for (int k = -100; k <= 100; k++) {
+                due(text + ", A to the " + k, x.bracket(0, k), wants[k + 100]);
+            }
+        }
+        // Loops apart: (- A to the 2, - A to the -2) to the 15.
+        PegStrings walls = grid("grid 4 4;");
+        walls.all(0, 0, 2);
+        due("A to the 30", walls.bracket(0, 30), -1);
+        due("A to the 26", walls.bracket(0, 26), -15);
+        due("A to the -2", walls.bracket(0, -2), -6435);
+        due("A to the -30", walls.bracket(0, -30), -1);
+        due("A to the 28", walls.bracket(0, 28), 0);
         dueNoTerms(false);
     }
 
@@ -823,9 +892,32 @@ public final class PromiseTest {
         PegStrings hopf = grid("grid 2 2;gap 0 right,2 right;");
         int turn = hopf.link(0, 0, 1) > 0 ? -1 : 1;
         dueTerms("Hopf's link", hopf, true, 2 * turn, -1, 10 * turn, -1);
+        // Kinks make no difference: eased, a line stays what it was.
+        for (String text : new String[] {"grid 3 3;", "grid 3 3;turn 0 below,4 right;", "grid 2 4;turn 1 below,5 right;"}) {
+            PegStrings x = grid(text);
+            x.oneLine(0);
+            long[] before = new long[201];
+            for (int k = -100; k <= 100; k++) {
+                before[k + 100] = x.smooth(0, k);
+            }
+            due("there are kinks", x.eases(0) > 0 ? 1 : 0, 1);
+            for (int k = -100; k <= 100; k++) {
+                due(text + ", A to the " + k, x.smooth(0, k), before[k + 100]);
+            }
+        }
         // A trefoil with a row of kinks beside it is the same.
         dueTerms("a trefoil with kinks", grid("grid 2 3;gap 0 right;wall 4 right;turn 1 right,2 below;"), true,
                 4 * hand, 1, 12 * hand, 1, 16 * hand, -1);
+        for (String text : MANY) {
+            PegStrings x = grid(text);
+            int signs = 0;
+            for (int e = 0; e < x.look(0, 2); e++) {
+                signs += x.sign(0, e) == 1 ? 1 : x.sign(0, e) == 0 ? -1 : 0;
+            }
+            for (int k = -60; k <= 60; k++) {
+                due(text + ", A to the " + k, x.smooth(0, k), (signs % 2 == 0 ? 1 : -1) * x.bracket(0, k + 3 * signs));
+            }
+        }
         dueNoTerms(true);
     }
 
