@@ -1377,7 +1377,7 @@ public final class PegStrings {
             }
             filled = 0;
             for (int e = 0; e < trace.edges() && e < MOST_EDGES; e++) {
-                if (at(overArc, e) != NONE) {
+                if (at(overArc, e) != NONE && filled < MOST_EDGES) {
                     Arrays.fill(rows[filled], 0);
                     add(at(overArc, e), 2);
                     add(at(arcBefore, e), -1);
@@ -1431,6 +1431,9 @@ public final class PegStrings {
         }
 
         private void swapRows(int a, int b) {
+            if (a < 0 || b < 0 || a >= MOST_EDGES || b >= MOST_EDGES) {
+                return;
+            }
             for (int j = 0; j < MOST_ARCS; j++) {
                 int kept = rows[a][j];
                 rows[a][j] = rows[b][j];
@@ -1439,6 +1442,9 @@ public final class PegStrings {
         }
 
         private int rowWith(int from, int arc, int p) {
+            if (from < 0 || p < 2) {
+                return NONE;
+            }
             for (int i = from; i < filled && i < MOST_EDGES; i++) {
                 if (Math.floorMod(rows[i][arc], p) != 0) {
                     return i;
@@ -1448,6 +1454,9 @@ public final class PegStrings {
         }
 
         private void clearBelow(int pivot, int arc, int p) {
+            if (pivot < 0 || pivot >= MOST_EDGES || p < 2) {
+                return;
+            }
             int lead = rows[pivot][arc];
             for (int i = pivot + 1; i < filled && i < MOST_EDGES; i++) {
                 int own = rows[i][arc];

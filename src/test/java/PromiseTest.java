@@ -5,80 +5,13 @@ import java.lang.reflect.Modifier;
 import java.util.Arrays;
 
 /** For each promise of the document: ordinary inputs, the edges that it names, and wrong inputs. */
-public final class PromiseTest {
-    private static final int MIN = Integer.MIN_VALUE;
-    private static final int MAX = Integer.MAX_VALUE;
-    private static final int[] NO_SLOTS = {-1, 3, MIN, MAX};
-
-    private static int wrong = 0;
-    private static int checked = 0;
-    private static String promise = "";
-
-    private static void due(String what, long got, long want) {
-        checked++;
-        if (got != want) {
-            wrong++;
-            System.out.println(promise + ": " + what + " answered " + got + ", due is " + want);
-        }
-    }
-
-    private static void feeds(PegStrings x, String text) {
-        x.end(0);
-        for (int i = 0; i < text.length(); i += 20) {
-            int[] words = new int[5];
-            for (int j = 0; j < 20; j++) {
-                int sign = i + j < text.length() ? text.charAt(i + j) : 0;
-                words[j / 4] = words[j / 4] << 8 | sign;
-            }
-            x.feed(words[0], words[1], words[2], words[3], words[4]);
-        }
-        due("end", x.end(text.length()), text.length());
-    }
-
-    private static int tells(PegStrings x, int slot, String text) {
-        feeds(x, text);
-        return x.told(slot);
-    }
-
-    /** A new object with a grid in slot 0. */
-    private static PegStrings grid(String text) {
-        PegStrings x = new PegStrings();
-        if (tells(x, 0, text) < 1) {
-            throw new IllegalStateException("not a good text: " + text);
-        }
-        return x;
-    }
-
-    private static String out(PegStrings x) {
-        StringBuilder text = new StringBuilder();
-        for (int i = 0; x.octet(i) != PegStrings.NONE; i++) {
-            text.append((char) x.octet(i));
-        }
-        return text.toString();
-    }
-
-    private static String textIn(PegStrings x, int slot) {
-        int size = x.tell(slot, 0);
-        return size == -2 ? "nothing" : out(x);
-    }
-
-    private static void dueText(String what, String got, String want) {
-        checked++;
-        if (!got.equals(want)) {
-            wrong++;
-            System.out.println(promise + ": " + what + " told '" + got + "', due is '" + want + "'");
-        }
-    }
-
+public final class PromiseTest extends Checks {
     public static void main(String[] args) throws Exception {
         for (int i = 0; i <= 48; i++) {
-            promise = "promise " + i;
+            label = "promise " + i;
             PromiseTest.class.getDeclaredMethod("promise" + i).invoke(null);
         }
-        System.out.println(checked + " checks, " + wrong + " wrong");
-        if (wrong != 0) {
-            System.exit(1);
-        }
+        ends();
     }
 
     /** The face: nothing more, nothing less. */
@@ -186,13 +119,6 @@ public final class PromiseTest {
         due("the same again", tells(x, 1, "grid 2 2;turn 0 below;gap 0 right,1 below,2 right;"), 1);
         due("is no act", x.count(1), 4);
         due("a text of 400 bytes", tells(x, 0, "grid 1 2;" + " ".repeat(391)), 1);
-    }
-
-    private static void dueFault(String text, int number, int place) {
-        PegStrings x = new PegStrings();
-        due("told: " + text, tells(x, 0, text), -4);
-        due("fault of: " + text, x.fault(0), number);
-        due("place in: " + text, x.fault(1), place);
     }
 
     static void promise5() {
