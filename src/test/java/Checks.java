@@ -69,8 +69,10 @@ abstract class Checks {
 
     static String out(PegStrings x) {
         StringBuilder text = new StringBuilder();
-        for (int i = 0; x.octet(i) != PegStrings.NONE; i++) {
-            text.append((char) x.octet(i));
+        int sign = x.octet(0);
+        while (sign != PegStrings.NONE) {
+            text.append((char) sign);
+            sign = x.octet(text.length());
         }
         return text.toString();
     }

@@ -9,7 +9,8 @@ import java.util.Random;
 /** Random runs of calls, each answer compared with that of PegStringsModel. */
 public final class ModelTest {
     private static final int RUNS = 700;
-    private static final int CALLS = 300;
+    /** A text told makes some thirty calls: so no run has more than the 512 that the document promises. */
+    private static final int CALLS = 480;
 
     /** Each call with the sorts of its arguments; those named more than once come more often. */
     private static final String[] CALLS_OF = {
@@ -54,7 +55,7 @@ public final class ModelTest {
     }
 
     private boolean runs() throws Exception {
-        for (int i = 0; i < CALLS; i++) {
+        while (said.size() < CALLS) {
             if (!(random.nextInt(8) == 0 ? tellsText() : calls(CALLS_OF[random.nextInt(CALLS_OF.length)]))) {
                 return false;
             }

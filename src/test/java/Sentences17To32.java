@@ -315,7 +315,7 @@ final class Sentences17To32 extends Checks {
         for (int bit = 0; bit < 24; bit++) {
             due("one gap, bit " + bit, x.loops(0, 1L << bit), 15);
         }
-        // Crosses by their numbers, turned or not, what is none left out: the edges 1 and 3.
+        // Crosses by their numbers, turned or not, what is none left out: the edges 1 and 2.
         x = grid("grid 1 4;wall 0 right;turn 1 right;");
         due("walls", x.loops(0, 0L), 4);
         due("the first", x.loops(0, 1L), 3);
@@ -328,7 +328,10 @@ final class Sentences17To32 extends Checks {
         due("the grid stays", x.look(0, 3), 3);
         due("no act", x.count(1), 1);
         tells(x, 1, "grid 4 4;");
-        due("of one slot of two", x.loops(0, 7L), 2);
+        int[] wants = {3, 2, 2, 1, 2, 1, 1, 2};
+        for (int set = 0; set < 8; set++) {
+            due("of one slot of two, " + set, x.loops(0, set), wants[set]);
+        }
         due("of the other one", x.loops(1, 0L), 16);
     }
 

@@ -19,6 +19,8 @@ final class Sentences33To48 extends Checks {
             kinds[e] = x.edge(0, e);
         }
         for (int way = 0; way < Math.pow(3, edges); way++) {
+            // A new object each time: none is asked for more calls than the document promises.
+            x = grid(text);
             int changed = 0;
             int rest = way;
             boolean isWay = true;
