@@ -1,5 +1,8 @@
+import java.lang.reflect.Field;
+import java.lang.reflect.Modifier;
 import java.nio.file.Files;
 import java.nio.file.Path;
+import java.util.Arrays;
 import java.util.HashSet;
 import java.util.Set;
 import java.util.regex.Matcher;
@@ -18,6 +21,7 @@ public final class LanguageTest {
         onlyImports(code);
         privateNames(code);
         shortMethods(source);
+        fewClassesAndFields();
         for (int i = 0; i < source.length(); i++) {
             if (source.charAt(i) > 126) {
                 fail("a sign above 126 at " + i);
@@ -92,6 +96,29 @@ public final class LanguageTest {
                     fail("too long: " + lines[i]);
                 }
             }
+        }
+    }
+
+    /** At most twelve classes, static ones inside the one, and none with more than twenty fields beside constants. */
+    private static void fewClassesAndFields() {
+        Class<?>[] inside = PegStrings.class.getDeclaredClasses();
+        if (inside.length + 1 > 12) {
+            fail("classes: " + (inside.length + 1));
+        }
+        fewFields(PegStrings.class);
+        for (Class<?> one : inside) {
+            if (!Modifier.isStatic(one.getModifiers())) {
+                fail("not static: " + one.getName());
+            }
+            fewFields(one);
+        }
+    }
+
+    private static void fewFields(Class<?> one) {
+        Field[] fields = one.getDeclaredFields();
+        long many = Arrays.stream(fields).filter(field -> !Modifier.isStatic(field.getModifiers())).count();
+        if (many > 20) {
+            fail("fields of " + one.getName() + ": " + many);
         }
     }
 }

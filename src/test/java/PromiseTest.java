@@ -730,7 +730,7 @@ public final class PromiseTest extends Checks {
         for (int e = 0; e < kinds.length; e++) {
             kinds[e] = x.edge(0, e);
         }
-        int ways = 1 << x.look(0, 3);
+        int ways = ways(x);
         long[] terms = new long[201];
         for (int set = 0; set < ways; set++) {
             int power = 0;

@@ -383,7 +383,7 @@ final class Sentences17To32 extends Checks {
     private static int[] loopsOfAllWays(String text) {
         int[] found = new int[18];
         PegStrings x = grid(text);
-        int ways = 1 << x.look(0, 3);
+        int ways = ways(x);
         for (int set = 0; set < ways; set++) {
             // No object is asked for more than it promises.
             x = set % 400 == 0 ? grid(text) : x;
